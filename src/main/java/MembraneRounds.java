@@ -14,7 +14,10 @@ public final class MembraneRounds {
     /** A place behind the membranes that stands as the skin's parent: so out needs no case of its own. */
     private static final int OUTSIDE = MEMBRANES;
     private static final int RULES = 6;
-    private static final int MOST_USES = 12;
+    private static final int MOST_OBJECTS = 12;
+    private static final int MOST_OUTSIDE = 999;
+    /** A use takes one object at least, and there is a kind that all uses of one rule take. */
+    private static final int MOST_USES = MOST_OBJECTS;
     private static final int MOST_ROUNDS = 3;
     private static final int MOST_OUTCOMES = 40;
     private static final int MOST_CHOICES = 1000;
@@ -61,7 +64,7 @@ public final class MembraneRounds {
         checkMembrane(membrane);
         checkHandful(handful);
         long heap = now.heaps[membrane] + Heap.ofHandful(handful);
-        if (!Heap.within(heap, Heap.MOST_INSIDE)) {
+        if (!Heap.within(heap, Heap.FULL_MEMBRANE)) {
             throw new IllegalStateException("more than 12 of a kind");
         }
         now.heaps[membrane] = heap;
@@ -246,15 +249,17 @@ public final class MembraneRounds {
 
     /**
      * Objects of all kinds in one long, 12 bits for each kind, so that they are added and compared
-     * together. No kind runs over its bits: six membranes hold at most 6 * 12 of it, and at most 60
-     * uses in each make at most 9 of it, so even all of a round in one place is 3312.
+     * together. No kind runs over its bits: six membranes (new ones of the round among them) hold at
+     * most 6 * 12 of it before, and at most 60 uses in each make at most 9 of it, so even all of a
+     * round in one place is 3312; outside it is 999 + 180.
      */
     private static final class Heap {
-        static final long MOST_INSIDE = 0x00C00C00C00C00CL;
-        static final long MOST_OUTSIDE = 0x3E73E73E73E73E7L;
         private static final int BITS = 12;
         private static final long FIELD = 0xFFFL;
-        private static final long TOP_BITS = 0x800800800800800L;
+        private static final long ONE_OF_EACH = 0x001001001001001L;
+        private static final long TOP_BITS = 0x800L * ONE_OF_EACH;
+        static final long FULL_MEMBRANE = MOST_OBJECTS * ONE_OF_EACH;
+        static final long FULL_OUTSIDE = MOST_OUTSIDE * ONE_OF_EACH;
 
         static long ofHandful(int handful) {
             long heap = 0L;
@@ -452,11 +457,11 @@ public final class MembraneRounds {
 
         boolean isTooMuch() {
             for (int m = 0; m < MEMBRANES; m++) {
-                if (!Heap.within(heaps[m], Heap.MOST_INSIDE)) {
+                if (!Heap.within(heaps[m], Heap.FULL_MEMBRANE)) {
                     return true;
                 }
             }
-            return !Heap.within(heaps[OUTSIDE], Heap.MOST_OUTSIDE);
+            return !Heap.within(heaps[OUTSIDE], Heap.FULL_OUTSIDE);
         }
     }
 
@@ -738,7 +743,7 @@ public final class MembraneRounds {
     /** Writes a configuration. */
     private static final class Scribe {
         /** For each membrane its label, two brackets and 12 objects of each kind. */
-        private static final int ROOM = MEMBRANES * (3 + KINDS * MOST_USES);
+        private static final int ROOM = MEMBRANES * (3 + KINDS * MOST_OBJECTS);
 
         private final char[] row = new char[ROOM];
         private int length;
