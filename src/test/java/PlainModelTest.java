@@ -63,18 +63,21 @@ public final class PlainModelTest {
     }
 
     private static void play(int run) {
-        MembraneRounds x = new MembraneRounds();
+        Machine x = new Machine();
         Model y = new Model();
+        List<int[]> calls = new ArrayList<>();
         StringBuilder told = new StringBuilder("run " + run + ":");
         int labels = 1 + Math.min(pick(4), pick(4));
         for (int i = 0; i < CALLS && wrong == 0; i++) {
             int kind = i == 0 ? 0 : choose(i < SET_UP ? SET_UP_WEIGHTS : WEIGHTS);
             int[] p = arguments(kind, labels);
+            calls.add(new int[] {kind});
+            calls.add(p);
             told.append(' ').append(kind).append(Arrays.toString(p));
             String got = call(x, kind, p);
             String due = y.call(kind, p);
             compare(told, "answer", got, due);
-            compare(told, "state", state(x), y.state());
+            compare(told, "state", state(calls), y.state());
             note(kind, due);
         }
     }
@@ -110,7 +113,7 @@ public final class PlainModelTest {
         }
     }
 
-    private static String call(MembraneRounds x, int kind, int[] p) {
+    private static String call(Machine x, int kind, int[] p) {
         try {
             switch (kind) {
                 case 0: x.clear(p[0]); return "";
@@ -149,9 +152,19 @@ public final class PlainModelTest {
         }
     }
 
+    /** An object behind so many calls (a kind and its arguments each), with most of its 512 calls left. */
+    private static Machine played(List<int[]> calls) {
+        Machine x = new Machine();
+        for (int i = 0; i < calls.size(); i += 2) {
+            call(x, calls.get(i)[0], calls.get(i + 1));
+        }
+        return x;
+    }
+
     /** All that can be asked, in one text. */
-    private static String state(MembraneRounds x) {
+    private static String state(List<int[]> calls) {
         StringBuilder text = new StringBuilder();
+        Machine x = played(calls);
         for (int m = -1; m < 7; m++) {
             text.append(x.there(m) ? "\n+" : "\n-");
             for (int what = -1; what < 9; what++) {
@@ -162,12 +175,13 @@ public final class PlainModelTest {
             }
             text.append(' ').append(asked(x, 2, m, 0, 0)).append(' ').append(asked(x, 3, m, 0, 0));
         }
-        text.append('\n');
-        for (int i = 0; x.written(i) != -1; i++) {
-            text.append((char) x.written(i));
-        }
+        x = played(calls);
+        text.append('\n').append(x.writing());
         for (int i = 0; !asked(x, 4, i, 0, 0).equals("I"); i++) {
             text.append('\n');
+            if (x.callsLeft() < 200) {
+                x = played(calls);
+            }
             for (int m = -1; m < 7; m++) {
                 for (int what = -1; what < 12; what++) {
                     text.append(' ').append(asked(x, 4, i, m, what));
@@ -177,7 +191,7 @@ public final class PlainModelTest {
         return text.toString();
     }
 
-    private static String asked(MembraneRounds x, int kind, int a, int b, int c) {
+    private static String asked(Machine x, int kind, int a, int b, int c) {
         try {
             switch (kind) {
                 case 0: return "" + x.at(a, b);

@@ -1,22 +1,5 @@
 /** For each promise of the document: ordinary inputs, the edges it names, and wrong inputs. */
-public final class PromisesTest {
-    private static final int A = 1;
-    private static final int B = 4;
-    private static final int C = 16;
-    private static final int D = 64;
-    private static final int E = 256;
-    private static final int NONE = MembraneRounds.NONE;
-    private static final int LIMIT = MembraneRounds.LIMIT;
-    private static final Class<?> INDEX = IndexOutOfBoundsException.class;
-    private static final Class<?> ARGUMENT = IllegalArgumentException.class;
-    private static final Class<?> STATE = IllegalStateException.class;
-
-    private static int wrong = 0;
-
-    private interface Call {
-        long answer();
-    }
-
+public final class PromisesTest extends Checks {
     public static void main(String[] args) {
         constants();
         promise1NewObject();
@@ -57,8 +40,7 @@ public final class PromisesTest {
         promise17Adopt();
         promise18Written();
         promise18FullOnes();
-        System.out.println(wrong == 0 ? "all promises hold" : wrong + " answers are wrong");
-        System.exit(wrong == 0 ? 0 : 1);
+        end();
     }
 
     private static void constants() {
@@ -67,7 +49,7 @@ public final class PromisesTest {
     }
 
     private static void promise1NewObject() {
-        MembraneRounds x = new MembraneRounds();
+        Machine x = new Machine();
         dueState("new", x, "0() outside 0,0,0,0,0");
         for (int m = 1; m < 6; m++) {
             int number = m;
@@ -75,14 +57,14 @@ public final class PromisesTest {
         }
         dueThrow("new: no rules", INDEX, () -> x.uses(0, 0));
         dueThrow("new: no outcomes", INDEX, () -> x.outcome(0, 0, 0));
-        dueThrow("new: nothing to adopt", INDEX, () -> run(() -> x.adopt(0)));
+        dueThrow("new: nothing to adopt", INDEX, () -> x.adopt(0));
         due("new: halted", 0, x::round);
         due("new: first rule", 0, () -> x.rule(0, A, 0, 0));
         due("new: first membrane", 1, () -> x.membrane(0, 0));
     }
 
     private static void promise2Clear() {
-        MembraneRounds x = new MembraneRounds();
+        Machine x = new Machine();
         x.membrane(0, 1);
         x.put(0, A);
         x.put(1, B);
@@ -90,7 +72,7 @@ public final class PromisesTest {
         x.round();
         x.outcomes(0);
         for (int label : new int[] {-1, 4, Integer.MIN_VALUE, Integer.MAX_VALUE}) {
-            dueThrow("clear " + label, ARGUMENT, () -> run(() -> x.clear(label)));
+            dueThrow("clear " + label, ARGUMENT, () -> x.clear(label));
         }
         dueState("a clear that throws", x, "0(1(b)) outside 0,0,1,0,0");
         due("a clear that throws keeps outcomes", 1, () -> x.outcome(0, 0, 8));
@@ -106,7 +88,7 @@ public final class PromisesTest {
     }
 
     private static void promise2ForgetsRules() {
-        MembraneRounds x = new MembraneRounds();
+        Machine x = new Machine();
         x.rule(0, A, 0, 0);
         x.into(0, 1, B);
         x.dissolve(0);
@@ -118,12 +100,12 @@ public final class PromisesTest {
         x.put(0, A + C);
         due("clear: the old rules' into, dissolve and divide are gone", 2, x::round);
         dueState("clear: new rules used", x, "2(bd) outside 0,0,0,0,0");
-        dueThrow("clear: no second dissolve", null, () -> run(() -> x.dissolve(0)));
-        dueThrow("clear: no second divide", null, () -> run(() -> x.divide(1, 0)));
+        dueThrow("clear: no second dissolve", null, () -> x.dissolve(0));
+        dueThrow("clear: no second divide", null, () -> x.divide(1, 0));
     }
 
     private static void promise3Membrane() {
-        MembraneRounds x = new MembraneRounds();
+        Machine x = new Machine();
         due("membrane 1", 1, () -> x.membrane(0, 3));
         due("membrane 2", 2, () -> x.membrane(1, 0));
         dueThrow("membrane: parent -1", INDEX, () -> x.membrane(-1, 0));
@@ -143,7 +125,7 @@ public final class PromisesTest {
     }
 
     private static void promise3LeastNumberAgain() {
-        MembraneRounds x = new MembraneRounds();
+        Machine x = new Machine();
         x.membrane(0, 1);
         x.membrane(0, 2);
         x.put(1, A);
@@ -157,7 +139,7 @@ public final class PromisesTest {
     }
 
     private static void promise4Put() {
-        MembraneRounds x = new MembraneRounds();
+        Machine x = new Machine();
         x.put(0, 1 * A + 2 * B + 3 * C + 1 * E);
         x.put(0, 0);
         x.put(0, 1023);
@@ -165,21 +147,21 @@ public final class PromisesTest {
         x.put(0, 3 * C);
         x.put(0, 3 * C);
         due("put: 12 are fine", 12, () -> x.at(0, 2));
-        dueThrow("put: 13", STATE, () -> run(() -> x.put(0, A + C)));
+        dueThrow("put: 13", STATE, () -> x.put(0, A + C));
         due("put that throws: nothing of the other kinds", 4, () -> x.at(0, 0));
-        dueThrow("put: -1 is none", ARGUMENT, () -> run(() -> x.put(0, -1)));
-        dueThrow("put: 1024 is none", ARGUMENT, () -> run(() -> x.put(0, 1024)));
-        dueThrow("put: membrane -1", INDEX, () -> run(() -> x.put(-1, A)));
-        dueThrow("put: membrane not there", INDEX, () -> run(() -> x.put(1, A)));
-        dueThrow("put: membrane 6", INDEX, () -> run(() -> x.put(6, A)));
-        dueThrow("put: membrane before handful", INDEX, () -> run(() -> x.put(1, 1024)));
+        dueThrow("put: -1 is none", ARGUMENT, () -> x.put(0, -1));
+        dueThrow("put: 1024 is none", ARGUMENT, () -> x.put(0, 1024));
+        dueThrow("put: membrane -1", INDEX, () -> x.put(-1, A));
+        dueThrow("put: membrane not there", INDEX, () -> x.put(1, A));
+        dueThrow("put: membrane 6", INDEX, () -> x.put(6, A));
+        dueThrow("put: membrane before handful", INDEX, () -> x.put(1, 1024));
         x.membrane(0, 1);
         x.put(1, E);
         dueState("put in 1", x, "0(aaaabbbbbccccccccccccdddeeee1(e)) outside 0,0,0,0,0");
     }
 
     private static void promise5Rule() {
-        MembraneRounds x = new MembraneRounds();
+        Machine x = new Machine();
         dueThrow("rule: label -1", ARGUMENT, () -> x.rule(-1, A, 0, 0));
         dueThrow("rule: label 4", ARGUMENT, () -> x.rule(4, A, 0, 0));
         dueThrow("rule: left 0", ARGUMENT, () -> x.rule(0, 0, A, A));
@@ -202,7 +184,7 @@ public final class PromisesTest {
     }
 
     private static void promise6Into() {
-        MembraneRounds x = new MembraneRounds();
+        Machine x = new Machine();
         x.membrane(0, 1);
         x.membrane(0, 2);
         x.membrane(0, 2);
@@ -210,21 +192,21 @@ public final class PromisesTest {
         x.rule(0, A, B, 0);
         x.into(0, 1, C);
         x.into(0, 2, D + 2 * E);
-        dueThrow("into: rule -1", INDEX, () -> run(() -> x.into(-1, 0, A)));
-        dueThrow("into: rule 1", INDEX, () -> run(() -> x.into(1, 0, A)));
-        dueThrow("into: rule before label", INDEX, () -> run(() -> x.into(1, 4, 0)));
-        dueThrow("into: label -1", ARGUMENT, () -> run(() -> x.into(0, -1, A)));
-        dueThrow("into: label 4", ARGUMENT, () -> run(() -> x.into(0, 4, A)));
-        dueThrow("into: handful 0", ARGUMENT, () -> run(() -> x.into(0, 1, 0)));
-        dueThrow("into: handful -1", ARGUMENT, () -> run(() -> x.into(0, 1, -1)));
-        dueThrow("into: handful 1024", ARGUMENT, () -> run(() -> x.into(0, 1, 1024)));
+        dueThrow("into: rule -1", INDEX, () -> x.into(-1, 0, A));
+        dueThrow("into: rule 1", INDEX, () -> x.into(1, 0, A));
+        dueThrow("into: rule before label", INDEX, () -> x.into(1, 4, 0));
+        dueThrow("into: label -1", ARGUMENT, () -> x.into(0, -1, A));
+        dueThrow("into: label 4", ARGUMENT, () -> x.into(0, 4, A));
+        dueThrow("into: handful 0", ARGUMENT, () -> x.into(0, 1, 0));
+        dueThrow("into: handful -1", ARGUMENT, () -> x.into(0, 1, -1));
+        dueThrow("into: handful 1024", ARGUMENT, () -> x.into(0, 1, 1024));
         x.put(0, 2 * A);
         due("into: used", 2, x::round);
         dueState("into: the last one, least number", x, "0(bb1()2(ddeeee3())2()) outside 0,0,0,0,0");
     }
 
     private static void promise6NeedsChild() {
-        MembraneRounds x = new MembraneRounds();
+        Machine x = new Machine();
         x.membrane(0, 1);
         x.membrane(1, 2);
         x.rule(0, A, 0, 0);
@@ -238,19 +220,19 @@ public final class PromisesTest {
     }
 
     private static void promise7Dissolve() {
-        MembraneRounds x = new MembraneRounds();
+        Machine x = new Machine();
         x.membrane(0, 1);
         x.membrane(1, 2);
         x.membrane(1, 3);
         x.rule(1, A, B, C);
         x.dissolve(0);
         x.into(0, 3, E);
-        dueThrow("dissolve: rule -1", INDEX, () -> run(() -> x.dissolve(-1)));
-        dueThrow("dissolve: rule 1", INDEX, () -> run(() -> x.dissolve(1)));
-        dueThrow("dissolve: it dissolves", STATE, () -> run(() -> x.dissolve(0)));
+        dueThrow("dissolve: rule -1", INDEX, () -> x.dissolve(-1));
+        dueThrow("dissolve: rule 1", INDEX, () -> x.dissolve(1));
+        dueThrow("dissolve: it dissolves", STATE, () -> x.dissolve(0));
         x.rule(0, D, 0, 0);
         x.divide(1, 0);
-        dueThrow("dissolve: it divides", STATE, () -> run(() -> x.dissolve(1)));
+        dueThrow("dissolve: it divides", STATE, () -> x.dissolve(1));
         x.put(1, 3 * A + D);
         x.put(2, D);
         due("dissolve: once at most", 1, x::round);
@@ -266,7 +248,7 @@ public final class PromisesTest {
     }
 
     private static void promise7OrderOfDissolving() {
-        MembraneRounds x = new MembraneRounds();
+        Machine x = new Machine();
         x.membrane(0, 1);
         x.membrane(1, 1);
         x.membrane(2, 1);
@@ -283,7 +265,7 @@ public final class PromisesTest {
     }
 
     private static void promise7ChildrenGoToTheParent() {
-        MembraneRounds x = new MembraneRounds();
+        Machine x = new Machine();
         x.membrane(0, 0);
         x.membrane(1, 1);
         x.membrane(2, 2);
@@ -296,20 +278,20 @@ public final class PromisesTest {
     }
 
     private static void promise8Divide() {
-        MembraneRounds x = new MembraneRounds();
+        Machine x = new Machine();
         x.membrane(0, 1);
         x.membrane(1, 2);
         x.rule(2, A, B, C);
         x.divide(0, D + E);
-        dueThrow("divide: rule -1", INDEX, () -> run(() -> x.divide(-1, 0)));
-        dueThrow("divide: rule 1", INDEX, () -> run(() -> x.divide(1, 0)));
-        dueThrow("divide: rule before other", INDEX, () -> run(() -> x.divide(1, 1024)));
-        dueThrow("divide: other -1", ARGUMENT, () -> run(() -> x.divide(0, -1)));
-        dueThrow("divide: other 1024", ARGUMENT, () -> run(() -> x.divide(0, 1024)));
-        dueThrow("divide: it divides", STATE, () -> run(() -> x.divide(0, 0)));
+        dueThrow("divide: rule -1", INDEX, () -> x.divide(-1, 0));
+        dueThrow("divide: rule 1", INDEX, () -> x.divide(1, 0));
+        dueThrow("divide: rule before other", INDEX, () -> x.divide(1, 1024));
+        dueThrow("divide: other -1", ARGUMENT, () -> x.divide(0, -1));
+        dueThrow("divide: other 1024", ARGUMENT, () -> x.divide(0, 1024));
+        dueThrow("divide: it divides", STATE, () -> x.divide(0, 0));
         x.rule(1, E, 0, 0);
         x.dissolve(1);
-        dueThrow("divide: it dissolves", STATE, () -> run(() -> x.divide(1, 0)));
+        dueThrow("divide: it dissolves", STATE, () -> x.divide(1, 0));
         x.rule(1, D, 0, 0);
         x.into(2, 2, 2 * E);
         x.rule(2, C, 3 * B, 0);
@@ -322,7 +304,7 @@ public final class PromisesTest {
     }
 
     private static void promise8NotWithChildren() {
-        MembraneRounds x = new MembraneRounds();
+        Machine x = new Machine();
         x.membrane(0, 1);
         x.membrane(1, 2);
         x.put(1, A);
@@ -346,7 +328,7 @@ public final class PromisesTest {
     }
 
     private static void promise8OneEndingPerMembrane() {
-        MembraneRounds x = new MembraneRounds();
+        Machine x = new Machine();
         x.membrane(0, 1);
         x.put(1, A + 2 * B + C);
         x.rule(1, A, 0, 0);
@@ -366,7 +348,7 @@ public final class PromisesTest {
     }
 
     private static void promise9Round() {
-        MembraneRounds x = new MembraneRounds();
+        Machine x = new Machine();
         x.membrane(0, 1);
         x.rule(0, A, B, C);
         x.rule(0, B, 0, D);
@@ -383,7 +365,7 @@ public final class PromisesTest {
     }
 
     private static void promise9TooMuch() {
-        MembraneRounds x = new MembraneRounds();
+        Machine x = new Machine();
         x.rule(0, A, 3 * B, 0);
         x.put(0, 3 * A);
         x.put(0, 2 * A);
@@ -418,7 +400,7 @@ public final class PromisesTest {
 
     /** Some 2500 of one kind come together in the skin, by every way there is; all other counts are fine. */
     private static void promise9FarTooMuch() {
-        MembraneRounds x = new MembraneRounds();
+        Machine x = new Machine();
         for (int m = 1; m < 6; m++) {
             x.membrane(m - 1, 0);
         }
@@ -440,7 +422,7 @@ public final class PromisesTest {
     }
 
     private static void promise9OnlyTheEndCounts() {
-        MembraneRounds x = new MembraneRounds();
+        Machine x = new Machine();
         x.membrane(0, 1);
         for (int i = 0; i < 4; i++) {
             x.put(1, 3 * A);
@@ -467,7 +449,7 @@ public final class PromisesTest {
     }
 
     private static void promise10Uses() {
-        MembraneRounds x = new MembraneRounds();
+        Machine x = new Machine();
         x.membrane(0, 1);
         x.put(1, 3 * A + 2 * B);
         x.put(1, 2 * A);
@@ -496,7 +478,7 @@ public final class PromisesTest {
     }
 
     private static void promise10OnceIsNotSpentByNoUse() {
-        MembraneRounds x = new MembraneRounds();
+        Machine x = new Machine();
         x.membrane(0, 1);
         x.put(1, 2 * A);
         x.rule(1, C, 0, 0);
@@ -511,7 +493,7 @@ public final class PromisesTest {
     }
 
     private static void promise11Choices() {
-        MembraneRounds x = new MembraneRounds();
+        Machine x = new Machine();
         due("choices: without rules", 1, () -> x.choices(0));
         x.rule(0, A, B, 0);
         due("choices: without objects", 1, () -> x.choices(0));
@@ -533,7 +515,7 @@ public final class PromisesTest {
     }
 
     private static void promise11Counted() {
-        MembraneRounds x = new MembraneRounds();
+        Machine x = new Machine();
         for (int i = 0; i < 3; i++) {
             x.rule(0, A, 0, 0);
         }
@@ -557,7 +539,7 @@ public final class PromisesTest {
     }
 
     private static void promise12At() {
-        MembraneRounds x = new MembraneRounds();
+        Machine x = new Machine();
         x.membrane(0, 3);
         x.membrane(1, 2);
         x.membrane(1, 0);
@@ -580,7 +562,7 @@ public final class PromisesTest {
     }
 
     private static void promise13There() {
-        MembraneRounds x = new MembraneRounds();
+        Machine x = new Machine();
         x.membrane(0, 0);
         int[] numbers = {Integer.MIN_VALUE, -1, 0, 1, 2, 5, 6, Integer.MAX_VALUE};
         int[] due = {0, 0, 1, 1, 0, 0, 0, 0};
@@ -591,7 +573,7 @@ public final class PromisesTest {
     }
 
     private static void promise14Outside() {
-        MembraneRounds x = new MembraneRounds();
+        Machine x = new Machine();
         x.rule(0, A, A, 1 * A + 2 * B + 3 * C + 1 * E);
         x.put(0, 3 * A);
         x.round();
@@ -610,7 +592,7 @@ public final class PromisesTest {
     }
 
     private static void promise14ThousandAreTooMany() {
-        MembraneRounds x = new MembraneRounds();
+        Machine x = new Machine();
         x.rule(0, A, A, 3 * C);
         x.rule(0, B, 0, C);
         for (int i = 0; i < 3; i++) {
@@ -627,7 +609,7 @@ public final class PromisesTest {
     }
 
     private static void promise15Outcomes() {
-        MembraneRounds x = new MembraneRounds();
+        Machine x = new Machine();
         x.membrane(0, 1);
         x.rule(0, A, B, 0);
         x.rule(0, A, C, 0);
@@ -655,7 +637,7 @@ public final class PromisesTest {
     }
 
     private static void promise15LeavesOutTooMuch() {
-        MembraneRounds x = new MembraneRounds();
+        Machine x = new Machine();
         x.rule(0, A, 3 * B, 0);
         x.rule(0, A, C, 0);
         x.put(0, A + 3 * B);
@@ -671,7 +653,7 @@ public final class PromisesTest {
     }
 
     private static void promise15Limit() {
-        MembraneRounds x = new MembraneRounds();
+        Machine x = new Machine();
         x.rule(0, A, 0, 0);
         x.rule(0, A, D, 0);
         x.rule(0, B, 0, 0);
@@ -687,13 +669,13 @@ public final class PromisesTest {
         x.put(0, C);
         due("outcomes: more than 40", LIMIT, () -> x.outcomes(1));
         dueThrow("outcomes: none at the limit", INDEX, () -> x.outcome(0, 0, 0));
-        dueThrow("outcomes: none to adopt at the limit", INDEX, () -> run(() -> x.adopt(0)));
+        dueThrow("outcomes: none to adopt at the limit", INDEX, () -> x.adopt(0));
         due("outcomes: of none is no limit", 1, () -> x.outcomes(0));
         due("outcomes: the limit of a lesser number", LIMIT, () -> x.outcomes(3));
     }
 
     private static void promise15OneTooMany() {
-        MembraneRounds x = new MembraneRounds();
+        Machine x = new Machine();
         x.rule(0, A, 0, 0);
         x.rule(0, A, B, 0);
         x.rule(0, A, C, 0);
@@ -709,7 +691,7 @@ public final class PromisesTest {
     }
 
     private static void promise15ThousandChoices() {
-        MembraneRounds x = new MembraneRounds();
+        Machine x = new Machine();
         x.rule(1, A, B, 0);
         x.rule(1, A, B, 0);
         for (int m = 1; m < 4; m++) {
@@ -724,7 +706,7 @@ public final class PromisesTest {
     }
 
     private static void promise15WhatIsTheSame() {
-        MembraneRounds x = new MembraneRounds();
+        Machine x = new Machine();
         x.rule(0, A, 0, B);
         x.rule(0, A, 0, 0);
         x.put(0, A);
@@ -765,7 +747,7 @@ public final class PromisesTest {
     }
 
     private static void promise15LimitOnTheWay() {
-        MembraneRounds x = new MembraneRounds();
+        Machine x = new Machine();
         for (int i = 0; i < 5; i++) {
             x.rule(0, A, B, 0);
         }
@@ -779,7 +761,7 @@ public final class PromisesTest {
     }
 
     private static void promise16Outcome() {
-        MembraneRounds x = new MembraneRounds();
+        Machine x = new Machine();
         x.membrane(0, 3);
         x.membrane(0, 1);
         x.put(1, A);
@@ -821,7 +803,7 @@ public final class PromisesTest {
     }
 
     private static void promise17Adopt() {
-        MembraneRounds x = new MembraneRounds();
+        Machine x = new Machine();
         x.membrane(0, 1);
         x.membrane(1, 2);
         x.put(1, A);
@@ -830,8 +812,8 @@ public final class PromisesTest {
         x.rule(1, A, C, D);
         x.rule(0, B + D, 0, E);
         due("adopt: two", 2, () -> x.outcomes(1));
-        dueThrow("adopt: -1", INDEX, () -> run(() -> x.adopt(-1)));
-        dueThrow("adopt: 2", INDEX, () -> run(() -> x.adopt(2)));
+        dueThrow("adopt: -1", INDEX, () -> x.adopt(-1));
+        dueThrow("adopt: 2", INDEX, () -> x.adopt(2));
         dueState("adopt that throws", x, "0(1(a2())) outside 0,0,0,0,0");
         x.adopt(0);
         dueState("adopt 0", x, "0(b2()) outside 0,0,0,0,0");
@@ -846,7 +828,7 @@ public final class PromisesTest {
     }
 
     private static void promise18Written() {
-        MembraneRounds x = new MembraneRounds();
+        Machine x = new Machine();
         x.clear(2);
         x.membrane(0, 1);
         x.membrane(0, 3);
@@ -866,7 +848,7 @@ public final class PromisesTest {
     }
 
     private static void promise18FullOnes() {
-        MembraneRounds x = new MembraneRounds();
+        Machine x = new Machine();
         StringBuilder due = new StringBuilder();
         for (int m = 0; m < 6; m++) {
             if (m > 0) {
@@ -879,84 +861,5 @@ public final class PromisesTest {
             due.append("ccccccccccccddddddddddddeeeeeeeeeeee");
         }
         dueState("written: six full ones, nested", x, due + ")))))) outside 0,0,0,0,0");
-    }
-
-    private static void due(String call, long want, Call asked) {
-        try {
-            long got = asked.answer();
-            if (got != want) {
-                complain(call, "answered " + got, "" + want);
-            }
-        } catch (RuntimeException e) {
-            complain(call, "threw " + e, "" + want);
-        }
-    }
-
-    /** Nothing is to be thrown when no exception is given. */
-    private static void dueThrow(String call, Class<?> want, Call asked) {
-        Class<?> got = null;
-        try {
-            asked.answer();
-        } catch (RuntimeException e) {
-            got = e.getClass();
-        }
-        if (got != want) {
-            complain(call, "threw " + got, "" + want);
-        }
-    }
-
-    private static long run(Runnable call) {
-        call.run();
-        return 0;
-    }
-
-    private static void dueState(String when, MembraneRounds x, String want) {
-        String got = state(x);
-        if (!got.equals(want)) {
-            complain(when, got, want);
-        }
-    }
-
-    private static void dueOutcome(String when, MembraneRounds x, int i, String want) {
-        String got = listed(x, i);
-        if (!got.equals(want)) {
-            complain(when, "outcome " + i + " " + got, want);
-        }
-    }
-
-    /** An outcome as "label:objects" for each number, "-" where there is no membrane, and what is outside. */
-    private static String listed(MembraneRounds x, int i) {
-        StringBuilder text = new StringBuilder();
-        for (int m = 0; m < 6; m++) {
-            int label = x.outcome(i, m, 5);
-            text.append(label == NONE ? "-" : label + ":");
-            for (int kind = 0; kind < 5; kind++) {
-                for (int n = x.outcome(i, m, kind); n > 0; n--) {
-                    text.append((char) ('a' + kind));
-                }
-            }
-            text.append(' ');
-        }
-        for (int kind = 0; kind < 5; kind++) {
-            text.append(kind == 0 ? "" : ",").append(x.outcome(i, 0, 6 + kind));
-        }
-        return text.toString();
-    }
-
-    private static String state(MembraneRounds x) {
-        StringBuilder text = new StringBuilder();
-        for (int i = 0; i < 1000 && x.written(i) != NONE; i++) {
-            text.append((char) x.written(i));
-        }
-        text.append(" outside");
-        for (int kind = 0; kind < 5; kind++) {
-            text.append(kind == 0 ? ' ' : ',').append(x.outside(kind));
-        }
-        return text.toString();
-    }
-
-    private static void complain(String call, String got, String want) {
-        wrong++;
-        System.out.println(call + ": " + got + ", due is " + want);
     }
 }

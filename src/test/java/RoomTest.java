@@ -2,7 +2,7 @@ import java.lang.management.ManagementFactory;
 
 /** Calls make no objects: all that one object needs is made with it, so that a run stays in its room. */
 public final class RoomTest {
-    private static final int CALLS = 512;
+    private static final int CALLS = 480;
     private static final long MOST_BYTES_MADE = 60_000L;
     private static final long MOST_BYTES_CALLED = 20_000L;
 
