@@ -63,6 +63,17 @@ abstract class Checks {
         }
     }
 
+    /** Five rules of the skin, with 999 ways to choose from 12 b and 10 c. */
+    static Machine with999Choices() {
+        Machine x = new Machine();
+        for (int left : new int[] {B + C, B + C, B, B, 2 * B}) {
+            x.rule(0, left, 0, 0);
+        }
+        x.putMany(0, B, 12);
+        x.putMany(0, C, 10);
+        return x;
+    }
+
     /** A test of one sentence; what goes wrong in it does not stop the others. */
     static void sentence(String words, Runnable test) {
         int before = wrong;

@@ -388,12 +388,7 @@ public final class ChoicesBoundariesTest extends Checks {
                 x.put(0, A);
             }
         }
-        Machine less = new Machine();
-        for (int left : new int[] {B + C, B + C, B, B, 2 * B}) {
-            less.rule(0, left, 0, 0);
-        }
-        less.putMany(0, B, 12);
-        less.putMany(0, C, 10);
+        Machine less = with999Choices();
         due("999", 999, () -> less.choices(0));
         less.put(0, C);
         due("1023 are counted to 1000", 1000, () -> less.choices(0));

@@ -39,6 +39,13 @@ final class Machine {
         }
     }
 
+    /** Twelve objects of each kind. */
+    void fill(int membrane) {
+        for (int i = 0; i < 4; i++) {
+            put(membrane, 1023);
+        }
+    }
+
     int rule(int label, int left, int here, int out) {
         return next().rule(label, left, here, out);
     }

@@ -338,9 +338,7 @@ public final class ObjectsBoundariesTest extends Checks {
             if (m > 0) {
                 y.membrane(m - 1, 3);
             }
-            for (int i = 0; i < 4; i++) {
-                y.put(m, 1023);
-            }
+            y.fill(m);
         }
         due("the longest: its first", '0', () -> y.written(0));
         due("its first a", 'a', () -> y.written(2));

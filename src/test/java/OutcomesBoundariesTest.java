@@ -281,12 +281,7 @@ public final class OutcomesBoundariesTest extends Checks {
     }
 
     private static void thousand() {
-        Machine less = new Machine();
-        for (int left : new int[] {B + C, B + C, B, B, 2 * B}) {
-            less.rule(0, left, 0, 0);
-        }
-        less.putMany(0, B, 12);
-        less.putMany(0, C, 10);
+        Machine less = with999Choices();
         due("999", 999, () -> less.choices(0));
         due("999 are no limit; from none to 10 c are left", 11, () -> less.outcomes(1));
         Machine just = new Machine();

@@ -405,9 +405,7 @@ public final class PromisesTest extends Checks {
             x.membrane(m - 1, 0);
         }
         for (int m = 0; m < 5; m++) {
-            for (int i = 0; i < 4; i++) {
-                x.put(m, 1023);
-            }
+            x.fill(m);
         }
         x.put(5, A);
         x.rule(0, A, 0, 0);
@@ -854,9 +852,7 @@ public final class PromisesTest extends Checks {
             if (m > 0) {
                 x.membrane(m - 1, 3);
             }
-            for (int i = 0; i < 4; i++) {
-                x.put(m, 1023);
-            }
+            x.fill(m);
             due.append(m == 0 ? 0 : 3).append("(aaaaaaaaaaaabbbbbbbbbbbb");
             due.append("ccccccccccccddddddddddddeeeeeeeeeeee");
         }

@@ -25,6 +25,8 @@ public final class RefusedCallsTest extends Checks {
     private static final Act BUSY = RefusedCallsTest::makeBusy;
     private static final Act FULL = RefusedCallsTest::makeFull;
     private static final Act NEARLY_TWELVE = RefusedCallsTest::makeNearlyTwelve;
+    private static final int[] NEARLY = {12, 11, 10, 9, 0};
+    private static final int[] NEARLY_BACK = {0, 9, 10, 11, 12};
     private static final int BUSY_MEMBRANES = 5;
     private static final int BUSY_RULES = 5;
     private static final int BUSY_DISSOLVES = 2;
@@ -92,13 +94,14 @@ public final class RefusedCallsTest extends Checks {
         x.rule(0, E, 0, 0);
     }
 
-    /** In the skin 12 a, 11 b, 10 c, 9 d and no e; another membrane is empty. */
+    /** A third membrane is empty. */
     private static void makeNearlyTwelve(Machine x) {
         x.membrane(0, 1);
-        x.putMany(0, A, 12);
-        x.putMany(0, B, 11);
-        x.putMany(0, C, 10);
-        x.putMany(0, D, 9);
+        x.membrane(0, 2);
+        for (int kind = 0; kind < 5; kind++) {
+            x.putMany(0, 1 << (2 * kind), NEARLY[kind]);
+            x.putMany(1, 1 << (2 * kind), NEARLY_BACK[kind]);
+        }
         x.outcomes(0);
     }
 
@@ -147,19 +150,26 @@ public final class RefusedCallsTest extends Checks {
     }
 
     private static void putTooMuch() {
-        int[] fine = {0, B, 2 * C, 3 * D, 3 * E, B + 2 * C + 3 * D + 3 * E};
-        for (int handful : fine) {
-            call("put(0, " + handful + ")", null, NEARLY_TWELVE, x -> x.put(0, handful));
+        for (int handful = 0; handful < 1024; handful++) {
+            int given = handful;
+            String name = "put(.., " + handful + ")";
+            call(name, fits(handful, NEARLY) ? null : STATE, NEARLY_TWELVE, x -> x.put(0, given));
+            call(name, fits(handful, NEARLY_BACK) ? null : STATE, NEARLY_TWELVE, x -> x.put(1, given));
+            call(name, null, NEARLY_TWELVE, x -> x.put(2, given));
+            call(name, INDEX, NEARLY_TWELVE, x -> x.put(3, given));
         }
-        int[] tooMuch = {A, 2 * A, 3 * A, 2 * B, 3 * B, 3 * C, A + 3 * E, 2 * B + D, 3 * C + D, 1023};
-        for (int handful : tooMuch) {
-            call("put(0, " + handful + ")", STATE, NEARLY_TWELVE, x -> x.put(0, handful));
-            call("put(1, " + handful + ")", null, NEARLY_TWELVE, x -> x.put(1, handful));
-            call("put(2, " + handful + ")", INDEX, NEARLY_TWELVE, x -> x.put(2, handful));
-        }
-        for (int handful : new int[] {-1, 1024, 1024 + A}) {
+        for (int handful : new int[] {-1, 1024, 1024 + A, 1024 + E}) {
             call("put(0, " + handful + ")", ARGUMENT, NEARLY_TWELVE, x -> x.put(0, handful));
+            call("put(1, " + handful + ")", ARGUMENT, NEARLY_TWELVE, x -> x.put(1, handful));
         }
+    }
+
+    private static boolean fits(int handful, int[] there) {
+        boolean fine = true;
+        for (int kind = 0; kind < 5; kind++) {
+            fine = fine && there[kind] + (handful >> (2 * kind) & 3) <= 12;
+        }
+        return fine;
     }
 
     private static void rule() {

@@ -505,9 +505,7 @@ public final class RoundsBoundariesTest extends Checks {
             if (m > 0) {
                 x.membrane(0, 0);
             }
-            for (int i = 0; i < 4; i++) {
-                x.put(m, 1023);
-            }
+            x.fill(m);
         }
         for (int kind = 0; kind < 5; kind++) {
             x.rule(0, 1 << (2 * kind), 0, 0);
