@@ -1,7 +1,10 @@
+import java.io.IOException;
 import java.lang.reflect.Constructor;
 import java.lang.reflect.Field;
 import java.lang.reflect.Method;
 import java.lang.reflect.Modifier;
+import java.nio.file.Files;
+import java.nio.file.Path;
 import java.util.ArrayList;
 import java.util.Arrays;
 import java.util.List;
@@ -34,7 +37,7 @@ public final class FaceTest {
 
     private static int wrong = 0;
 
-    public static void main(String[] args) {
+    public static void main(String[] args) throws IOException {
         Class<?> face = MembraneRounds.class;
         expect(Modifier.isPublic(face.getModifiers()) && Modifier.isFinal(face.getModifiers()), "public and final");
         TreeSet<String> due = new TreeSet<>(Arrays.asList(FACE));
@@ -45,6 +48,7 @@ public final class FaceTest {
             int how = inside.getModifiers();
             expect(Modifier.isStatic(how) && !Modifier.isPublic(how) && !Modifier.isProtected(how), inside + " is hidden");
         }
+        rowsOfTheDocument();
         System.out.println(wrong == 0 ? "the face is as due" : "the face is wrong");
         System.exit(wrong == 0 ? 0 : 1);
     }
@@ -95,6 +99,20 @@ public final class FaceTest {
                 boolean own = one == face && Modifier.isPublic(method.getModifiers());
                 expect(own || !open.contains(method.getName()), "a hidden " + method);
             }
+        }
+    }
+
+    /** Each row of the document's face stands in the program, with the names of its arguments. */
+    private static void rowsOfTheDocument() throws IOException {
+        String program = Files.readString(Path.of("src/main/java/MembraneRounds.java")).replaceAll("\\s+", " ");
+        String document = Files.readString(Path.of("../shared/DOC.md"));
+        String start = "```java\n";
+        int from = document.indexOf(start) + start.length();
+        String[] rows = document.substring(from, document.indexOf("```", from)).split("\n");
+        expect(rows.length == FACE.length + 2, "the document's face has " + rows.length + " rows");
+        for (String row : rows) {
+            String due = row.trim().replace(");", ") {").replace("Exception;", "Exception {");
+            expect(program.contains(due), "there is no " + due);
         }
     }
 
